@@ -462,7 +462,8 @@ public final class PetalSets {
         int least = MOST_POINTS + 1;
         for (int bits = 1; bits <= now.allPoints(); bits++) {
             int size = Integer.bitCount(bits);
-            if (size < least && touch.untouched(bits) * power(p, size) > now.size * power(q, size)) {
+            int having = touch.untouched(bits);
+            if (size < least && having > 0 && having * power(p, size) > now.size * power(q, size)) {
                 first = bits;
                 least = size;
             }
@@ -1404,35 +1405,68 @@ public final class PetalSets {
     private static final class Thinner {
         // How many of the first sets, by how many these are, can stay at most.
         final int[] best = new int[MOST_SETS + 1];
+        // For each two sets the others that are a sunflower with them: the search asks for these all the time.
+        final int[] fits = new int[MOST_SETS * MOST_SETS];
+        int size = 0;
 
         int leastFree(Family family, int k) {
+            size = Math.min(family.size, MOST_SETS);
+            fillFits(family);
             best[0] = 0;
-            int size = Math.min(family.size, MOST_SETS);
             for (int i = 0; i < size; i++) {
                 // One set more can bring one more at most, and only if it stays itself.
-                boolean more = choose(family, k, i, 1 << i, best[i]) != NONE;
+                boolean more = choose(k, i, 1 << i, best[i]) != NONE;
                 best[i + 1] = more ? best[i] + 1 : best[i];
             }
-            return choose(family, k, size, 0, best[size]);
+            return choose(k, size, 0, best[size]);
+        }
+
+        private void fillFits(Family family) {
+            for (int i = 0; i < size; i++) {
+                for (int j = 0; j < i; j++) {
+                    int fit = Petals.fitting(family, family.at(i), family.at(j), family.allSets());
+                    fits[i * MOST_SETS + j] = fit;
+                    fits[j * MOST_SETS + i] = fit;
+                }
+            }
         }
 
         /** The least bits of those chosen and so many more of the first sets that all are free, or NONE. */
-        private int choose(Family family, int k, int firsts, int chosen, int many) {
+        private int choose(int k, int firsts, int chosen, int many) {
             if (many <= 0) {
                 return chosen;
             }
-            if (firsts <= 0 || firsts >= best.length || best[firsts] < many) {
+            if (firsts <= 0 || firsts > size || best[firsts] < many) {
                 return NONE;
             }
             int i = firsts - 1;
-            int without = choose(family, k, i, chosen, many);
-            if (without != NONE) {
-                return without;
+            int lesser = choose(k, i, chosen, many);
+            if (lesser != NONE) {
+                return lesser;
             }
-            if (Petals.closesFlower(family, family.at(i), chosen, k)) {
+            if (closes(i, chosen, k - 1)) {
                 return NONE;
             }
-            return choose(family, k, i, chosen | 1 << i, many - 1);
+            return choose(k, i, chosen | 1 << i, many - 1);
+        }
+
+        /** Whether a set is with so many of some others a sunflower. */
+        private boolean closes(int i, int sets, int many) {
+            if (Integer.bitCount(sets) < many) {
+                return false;
+            }
+            if (many <= 1) {
+                return true;
+            }
+            for (int j = many - 1; j < size; j++) {
+                if ((sets >> j & 1) != 0) {
+                    int rest = sets & fits[i * MOST_SETS + j] & (1 << j) - 1;
+                    if (closes(i, rest, many - 1)) {
+                        return true;
+                    }
+                }
+            }
+            return false;
         }
     }
 
