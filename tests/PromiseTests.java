@@ -579,6 +579,7 @@ public final class PromiseTests {
         due("spread(1, 10)", x.spread(1, 10), NONE);
         due("spread of pairs", of(6, "ab cd ef").spread(2, 1), -103);
         due("spread, just so", of(6, "a b").spread(2, 1), 1);
+        due("spread, all points alone are too many", of(3, "abc a b c").spread(2, 1), -107);
         due("spread of none", new PetalSets().spread(9, 1), 1);
         due("spread beyond an int", of(10, "abcdefghij").spread(9, 8), -101);
         due("spread of ten points", of(10, "abcdefghij").spread(8, 9), 1);
@@ -588,6 +589,7 @@ public final class PromiseTests {
         due("spreadest() of three", of(6, "a b c").spreadest(), 3);
         due("spreadest() of ten", of(10, "a b c d e f g h i j").spreadest(), 9);
         due("spreadest() of pairs", of(10, "ab cd ef gh").spreadest(), 2);
+        due("spreadest(), all points alone are too many", of(3, "abc a b c").spreadest(), 1);
         due("spreadest() of none", new PetalSets().spreadest(), -2);
         due("spreadest() of one", of(6, "a").spreadest(), 1);
 
@@ -652,6 +654,7 @@ public final class PromiseTests {
         for (int k = 0; k < 6; k++) due("tight(" + k + ")", x.tight(k), tight[k]);
         due("tight(6)", x.tight(6), -2);
         due("tight(-2)", x.tight(-2), NONE);
+        due("tight(0), all points", of(2, "a b").tight(0), 3);
         due("tight(NONE) of none", none.tight(NONE), 1);
         due("tight(0) of none", none.tight(0), 0);
         due("tight(1) of none", none.tight(1), -2);
@@ -664,6 +667,7 @@ public final class PromiseTests {
         due("greedy(0) of none", none.greedy(0), 0);
         due("greedy(1) of none", none.greedy(1), 0);
         due("greedy(2) of none", none.greedy(2), -2);
+        due("greedy(0) of ten", ten.greedy(0), 10);
         PetalSets late = of(6, "b bc cd e");
         due("greedy(2)", late.greedy(2), 1);
         due("greedy(1)", late.greedy(1), 2 + 4 + 16);
@@ -733,6 +737,10 @@ public final class PromiseTests {
         due("kernel(2, 4) behind an act", y.kernel(2, 4), 15);
         y.undo();
         due("kernel(2, 0) behind undo", y.kernel(2, 0), 2);
+        y.change(0, 32);
+        due("kernel(2, 4) behind another first set", y.kernel(2, 4), -2);
+        due("kernel(2, 1) behind another first set", y.kernel(2, 1), 0);
+        y.undo();
         int[] chained = {1, 3, 3, 0, 1};
         for (int i = 0; i < 5; i++) due("kernel(1, " + i + ") of a chain", chain().kernel(1, i), chained[i]);
 
@@ -818,6 +826,7 @@ public final class PromiseTests {
         due("freeNext(3) of one", one.freeNext(3), 2);
         due("freeNext(3), none is left", of(1, "a").freeNext(3), -2);
         due("freeNext(3), two points ahead of three", of(3, "a b").freeNext(3), 3);
+        due("freeNext(3), all points", of(2, "a b").freeNext(3), 3);
         due("freeNext(16) of sixteen", sixteen().freeNext(16), 11);
 
         promise = 49;
@@ -855,6 +864,8 @@ public final class PromiseTests {
         for (int i = 0; i < 7; i++) due("count(" + i + ")", x.count(i), counts[i]);
         due("count(7)", x.count(7), NONE);
         due("count(-1)", x.count(-1), NONE);
+        due("count(5), the first", of(6, "abc a").count(5), 3);
+        due("count(6), the first", of(6, "a abc").count(6), 1);
         x.only(7, true);
         int[] empty = {8, 0, 0, 2, 20, -2, -2};
         for (int i = 0; i < 7; i++) due("count(" + i + ")", x.count(i), empty[i]);

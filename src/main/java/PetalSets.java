@@ -750,7 +750,7 @@ public final class PetalSets {
         int least = MOST_POINTS + 1;
         for (int set = 1; set <= now.allPoints(); set++) {
             int size = Integer.bitCount(set);
-            if (size < least && now.find(set) == NONE && !Petals.closesFlower(now, set, now.allSets(), k)) {
+            if (size < least && now.find(set) == NONE && !Petals.closesFlower(now, set, k)) {
                 first = set;
                 least = size;
             }
@@ -1084,7 +1084,7 @@ public final class PetalSets {
             skipBlanks(tape);
             int first = place;
             int set = readLetters(tape, into);
-            if (set == NONE || !into.isSet(set) || into.find(set) != NONE) {
+            if (!into.isSet(set) || into.find(set) != NONE) {
                 return first;
             }
             into.append(set);
@@ -1202,18 +1202,15 @@ public final class PetalSets {
             return found;
         }
 
-        /** Whether a set, which is none of some sets, is with k - 1 (1 or more) of them a sunflower. */
-        static boolean closesFlower(Family family, int set, int sets, int k) {
+        /** Whether a set that there is not is with k - 1 (1 or more) of those that there are a sunflower. */
+        static boolean closesFlower(Family family, int set, int k) {
             if (k == 2) {
-                return sets != 0;
+                return family.size > 0;
             }
             for (int i = k - 2; i < family.size; i++) {
-                if ((sets >> i & 1) != 0) {
-                    int meet = set & family.at(i);
-                    int rest = fitting(family, set, family.at(i), sets & (1 << i) - 1);
-                    if (leastClique(family, rest, meet, k - 2) != NONE) {
-                        return true;
-                    }
+                int rest = fitting(family, set, family.at(i), (1 << i) - 1);
+                if (leastClique(family, rest, set & family.at(i), k - 2) != NONE) {
+                    return true;
                 }
             }
             return false;
@@ -1381,21 +1378,24 @@ public final class PetalSets {
         void run(Family family) {
             ways = 0;
             least = NOTHING;
-            coverRest(family, family.unionOf(family.allSets()), 0);
+            coverRest(family, family.unionOf(family.allSets()), 0, MOST_POINTS);
         }
 
         /** Each level covers the least point that is open, so there are no more levels than points. */
-        private void coverRest(Family family, int open, int chosen) {
+        private void coverRest(Family family, int open, int chosen, int levels) {
             if (open == 0) {
                 ways++;
                 least = least == NOTHING ? chosen : Math.min(least, chosen);
+                return;
+            }
+            if (levels <= 0) {
                 return;
             }
             int point = Integer.lowestOneBit(open);
             for (int i = 0; i < family.size; i++) {
                 int set = family.at(i);
                 if ((set & point) != 0 && (set & ~open) == 0) {
-                    coverRest(family, open & ~set, chosen | 1 << i);
+                    coverRest(family, open & ~set, chosen | 1 << i, levels - 1);
                 }
             }
         }
