@@ -654,6 +654,17 @@ public final class OracleTests {
                 if (style == 3) s = t < n ? 1 << t : 1 << rnd.nextInt(n) | 1 << rnd.nextInt(n) | (rnd.nextBoolean() ? 1 << rnd.nextInt(n) : 0);
                 if (s != 0 && !sets.contains(s)) sets.add(s);
             }
+            return textOf(n, sets);
+        }
+
+        /** The sets that there are, of as many points as they need or more. */
+        String retold() {
+            int least = 1;
+            for (int s : m.sets) least = Math.max(least, 32 - Integer.numberOfLeadingZeros(s));
+            return textOf(least + rnd.nextInt(11 - least), m.sets);
+        }
+
+        String textOf(int n, List<Integer> sets) {
             StringBuilder t = new StringBuilder(n == 6 && rnd.nextBoolean() ? "" : "points " + n + ";");
             for (int s : sets) {
                 List<Character> letters = new ArrayList<>();
@@ -803,6 +814,23 @@ public final class OracleTests {
         }
     }
 
+    /** The same sets told again of other points: what was kept of them must not bring the points back. */
+    private static void retoldRun(long seed) {
+        Pair p = new Pair(new Random(seed));
+        if (!p.tell(p.someText())) return;
+        while (p.left > 100) {
+            int b = 1 + p.rnd.nextInt(5);
+            int how = p.rnd.nextInt(4);
+            boolean ok = p.due("kernel " + b, p.x.kernel(b, 0), p.m.kernel(b, 0)) && p.tell(p.retold());
+            if (ok && how == 0) ok = p.someQuestion();
+            if (ok && how != 1) ok = p.due("reduce " + b, p.x.reduce(b), p.m.reduce(b));
+            if (ok && how == 1) ok = p.someAct();
+            if (!ok || !p.sameState()) return;
+            if (p.m.sets.size() < 3) ok = p.tell(p.someText());
+            if (!ok) return;
+        }
+    }
+
     /** Every byte of the texts and every step, on many families. */
     private static void readRun(long seed) {
         Pair p = new Pair(new Random(seed));
@@ -833,6 +861,7 @@ public final class OracleTests {
         for (int i = 0; i < runs; i++) {
             mixedRun(seed * 1000003 + i);
             textRun(seed * 2000003 + i);
+            retoldRun(seed * 5000011 + i);
             readRun(seed * 3000017 + i);
             wideRun(seed * 4000037 + i);
         }

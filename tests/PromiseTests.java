@@ -326,6 +326,22 @@ public final class PromiseTests {
         sets(x, 60, 58, 54, 57, 15);
     }
 
+    /** A kernel that is kept from the same sets of other points tells nothing of how many points there are. */
+    private static void reduceOfOtherPoints(int before, int after) {
+        PetalSets x = of(before, "ab ac ad bc");
+        due("kernel(2, 0)", x.kernel(2, 0), 2);
+        due("the same sets of other points", tell(x, "points " + after + ";set ab;set ac;set ad;set bc;"), 4);
+        due("kernel(2, 4)", x.kernel(2, 4), 7);
+        due("reduce(2)", x.reduce(2), 2);
+        spelled(x, "points " + after + ";set bc;set a;");
+        due("count(0)", x.count(0), after);
+        due("add of the last point", x.add(1 << after - 1), 2);
+        due("add beyond the last point", x.add(1 << after), NONE);
+        due("undo", x.undo(), 1);
+        due("undo", x.undo(), 0);
+        due("count(0)", x.count(0), after);
+        sets(x, 3, 5, 9, 6);
+    }
     private static void reduceThinUndo() {
         promise = 14;
         PetalSets x = of(6, "ab ac ad bc");
@@ -349,6 +365,7 @@ public final class PromiseTests {
         x = chain();
         due("reduce(5)", x.reduce(5), 1);
         sets(x, 1);
+        for (int before = 4; before <= 10; before++) for (int after = 4; after <= 10; after++) reduceOfOtherPoints(before, after);
 
         promise = 15;
         x = star();

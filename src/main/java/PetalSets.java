@@ -125,7 +125,7 @@ public final class PetalSets {
         for (int i = 0; i < now.size; i++) {
             spare.appendNew(now.at(i) & ~(1 << point));
         }
-        become();
+        become(spare);
         return now.size;
     }
 
@@ -151,7 +151,7 @@ public final class PetalSets {
             boolean hasOther = (set >> other & 1) != 0;
             spare.appendNew(hasOther ? set & ~(1 << other) | 1 << point : set);
         }
-        become();
+        become(spare);
         return now.size;
     }
 
@@ -173,7 +173,7 @@ public final class PetalSets {
         for (int i = 0; i < now.size; i++) {
             spare.appendNew(now.allPoints() & ~now.at(i));
         }
-        become();
+        become(spare);
         return now.size;
     }
 
@@ -189,8 +189,7 @@ public final class PetalSets {
         if (kernels.steps == 0) {
             return NONE;
         }
-        spare.copyFrom(kernels.sets);
-        become();
+        become(kernels.sets);
         return now.size;
     }
 
@@ -210,9 +209,10 @@ public final class PetalSets {
         return past.depth;
     }
 
-    private void become() {
+    /** An act changes sets alone: the points stay those that the text told. */
+    private void become(Family next) {
         past.keep(now);
-        now.copyFrom(spare);
+        now.copySetsFrom(next);
     }
 
     /** For acts that move points about, after which spare has as many sets as now. */
@@ -226,7 +226,7 @@ public final class PetalSets {
         if (changed == 0) {
             return NONE;
         }
-        become();
+        become(spare);
         return changed;
     }
 
@@ -955,13 +955,18 @@ public final class PetalSets {
         }
 
         void copyFrom(Family other) {
-            startAnew(other.points);
+            points = other.points;
+            copySetsFrom(other);
+        }
+
+        void copySetsFrom(Family other) {
+            size = 0;
             for (int i = 0; i < other.size; i++) {
                 append(other.row[i]);
             }
         }
 
-        boolean sameAs(Family other) {
+        boolean hasSameSetsAs(Family other) {
             if (size != other.size) {
                 return false;
             }
@@ -997,7 +1002,7 @@ public final class PetalSets {
         void restore(Family family) {
             next = (next + MOST_ACTS - 1) % MOST_ACTS;
             depth = Math.max(depth - 1, 0);
-            family.startAnew(family.points);
+            family.size = 0;
             for (int i = 0; i < sizes[next]; i++) {
                 family.append(rows[next * MOST_SETS + i]);
             }
@@ -1470,7 +1475,10 @@ public final class PetalSets {
         }
     }
 
-    /** The steps from a family to its kernel, kept until another one is asked for. */
+    /**
+     * The steps from a family to its kernel, kept until another one is asked for. They hang on the sets alone,
+     * so they are kept when a text tells the same sets of other points; the points of its families say nothing.
+     */
     private static final class Kernel {
         static final int WITHIN = 0;
         static final int FLOWER = 1;
@@ -1486,14 +1494,14 @@ public final class PetalSets {
         boolean lost = false;
 
         void run(Family from, int b) {
-            if (budget == b && start.sameAs(from)) {
+            if (budget == b && start.hasSameSetsAs(from)) {
                 return;
             }
             budget = b;
             steps = 0;
             lost = false;
-            start.copyFrom(from);
-            sets.copyFrom(from);
+            start.copySetsFrom(from);
+            sets.copySetsFrom(from);
             boolean goesOn = true;
             // Every step leaves fewer sets.
             for (int i = 0; i < MOST_SETS && goesOn; i++) {
