@@ -1410,7 +1410,8 @@ public final class PetalSets {
     private static final class Thinner {
         // How many of the first sets, by how many these are, can stay at most.
         final int[] best = new int[MOST_SETS + 1];
-        // For each two sets the others that are a sunflower with them: the search asks for these all the time.
+        // For each set and a later one the others that are a sunflower with both: the search asks for these all
+        // the time, and always for a set with later ones.
         final int[] fits = new int[MOST_SETS * MOST_SETS];
         int size = 0;
 
@@ -1428,10 +1429,8 @@ public final class PetalSets {
 
         private void fillFits(Family family) {
             for (int i = 0; i < size; i++) {
-                for (int j = 0; j < i; j++) {
-                    int fit = Petals.fitting(family, family.at(i), family.at(j), family.allSets());
-                    fits[i * MOST_SETS + j] = fit;
-                    fits[j * MOST_SETS + i] = fit;
+                for (int j = i + 1; j < size; j++) {
+                    fits[i * MOST_SETS + j] = Petals.fitting(family, family.at(i), family.at(j), family.allSets());
                 }
             }
         }
@@ -1455,7 +1454,7 @@ public final class PetalSets {
             return choose(k, i, chosen | 1 << i, many - 1);
         }
 
-        /** Whether a set is with so many of some others a sunflower. */
+        /** Whether a set is with so many of some later ones a sunflower. */
         private boolean closes(int i, int sets, int many) {
             if (Integer.bitCount(sets) < many) {
                 return false;
