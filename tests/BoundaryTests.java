@@ -97,9 +97,9 @@ public final class BoundaryTests {
         return t.toString();
     }
     /**
-     * A family told as "6 ab ac". Its last set came by an act, so that the text was another one, and then the largest
-     * set that there is not came and went, so that there are acts to undo, and a set that there was; twelve bytes
-     * stand on the tape.
+     * A family told as "6 ab ac". Its last set came by an act, so that the text was another one; then the largest set
+     * that there is not came and went, so that there are acts to undo, and a set that there was; then a text of other
+     * points and sets was refused for its FAULT; twelve bytes stand on the tape.
      */
     private static PetalSets make(String family) {
         PetalSets x = new PetalSets();
@@ -111,6 +111,7 @@ public final class BoundaryTests {
         int another = (1 << x.count(0)) - 1;
         while (another > 0 && x.add(another) == NONE) another--;
         if (x.count(1) > many) x.drop(many);
+        tell(x, x.count(0) == 3 ? "points 5;set e;set cd;?" : "points 3;set c;set ab;?");
         feed(x, "set b;set a;");
         return x;
     }
@@ -704,14 +705,13 @@ public final class BoundaryTests {
 
     // ---- sunflowers
 
-    private static final String NOT_SETS = "none such";
     private static void bitsOfSets(String name) {
         ask("NONE: below 0", STAR, NONE, name + "(-1)", name + "(-32)", name + "(LEAST)");
         ask("NONE: below 0 -- no SETS", "6", NONE, name + "(-1)");
-        ask(NOT_SETS + " -- the next one", STAR, NONE, name + "(32)", name + "(35)", name + "(63)");
-        ask(NOT_SETS + " -- far ones", STAR, NONE, name + "(0x10000)", name + "(0x40000000)", name + "(MOST)");
-        ask(NOT_SETS + " -- the 17th", SIXTEEN, NONE, name + "(0x10000)", name + "(0x1ffff)");
-        ask(NOT_SETS + " -- no SETS", "6", NONE, name + "(1)");
+        ask("none such -- the next one", STAR, NONE, name + "(32)", name + "(35)", name + "(63)");
+        ask("none such -- far ones", STAR, NONE, name + "(0x10000)", name + "(0x40000000)", name + "(MOST)");
+        ask("none such -- the 17th", SIXTEEN, NONE, name + "(0x10000)", name + "(0x1ffff)");
+        ask("none such -- no SETS", "6", NONE, name + "(1)");
     }
     private static void areFlowers() {
         begin(20);
@@ -799,6 +799,7 @@ public final class BoundaryTests {
         ask("bits of POINTS, none, too", STAR, 3, "byCore(0, 0)");
         ask("bits of POINTS, none, too", STAR, s(2, 3, 4), "byCore(0, 1)");
         ask("1 the first such (bits) -- of several", "4 ab ac bd cd", s(1, 2), "byCore(0, 1)");
+        ask("1 the first such (bits) -- the last of more SETS than POINTS", "3 abc ab ac a b c", s(3, 4, 5), "byCore(0, 1)");
         ask("with such a CORE -- it is one of them", "6 ab a cd ac", s(0, 1, 3), "byCore(a, 1)");
         ask("with such a CORE -- just such", CHAIN, 2, "byCore(a, 0)", "byCore(ab, 0)", "byCore(abc, 0)");
         ask("-2: there is none -- in one SET", STAR, -2, "byCore(d, 0)", "byCore(d, 1)", "byCore(ab, 0)");
@@ -818,6 +819,7 @@ public final class BoundaryTests {
         ask("unlike CORES -- the empty one, too", STAR, 4, "cores(2)");
         ask("unlike CORES -- two SUNFLOWERS with one", TEN, 1, "cores(2)", "cores(9)", "cores(10)");
         ask("unlike CORES -- of a chain", CHAIN, 3, "cores(2)");
+        ask("unlike CORES -- more SETS than POINTS", "3 a b c ab ac bc abc", 7, "cores(2)");
         ask("unlike CORES -- one SET meets two others in the same", "6 ab abc ad", 2, "cores(2)");
         ask("unlike CORES -- of more SETS fewer", STAR, 2, "cores(3)");
         ask("SUNFLOWERS of just k SETS (2 .. 16) have -- none", STAR, 0, "cores(4)", "cores(16)");
@@ -832,6 +834,7 @@ public final class BoundaryTests {
         ask("of several the least bits", STAR, s(0, 1, 3, 4), "most(3)");
         ask("of several the least bits -- not with the first SET", "10 a bc bd cd ef eg fg", 126, "most(3)");
         ask("of several the least bits -- of ten", TEN, s(0, 1, 2), "most(4)");
+        ask("of several the least bits -- more SETS than POINTS", "3 abc ab a b c", s(0, 1, 2, 3), "most(3)");
         ask("FREE of k (2 .. 16) -- a CORE that is one of them counts once", "6 ab a b", 7, "most(3)");
         ask("FREE of k (2 .. 16) -- 2: one alone", STAR, 1, "most(2)");
         ask("FREE of k (2 .. 16) -- 16: all", SIXTEEN, 65535, "most(16)");
@@ -890,6 +893,7 @@ public final class BoundaryTests {
         ask("two that meet are in one -- all in one", CHAIN, 1, "parts()");
         ask("two that meet are in one -- by others", "10 ij gh ef cd ab hi fg de bc", 1, "parts()");
         ask("two that meet are in one -- the last joins two", "10 ab cd ef bc", 2, "parts()");
+        ask("two that meet are in one -- two of two", "10 ab cd bi d", 2, "parts()");
 
         begin(32);
         ask("the most first", "4 b bc bd cd c", 1, "ranked(0)");
@@ -939,6 +943,7 @@ public final class BoundaryTests {
         ask("The greatest p (1 .. 9) -- it could be 10", TEN, 9, "spreadest()");
         ask("The greatest p (1 .. 9) -- by two POINTS less", "10 ab cd ef gh", 2, "spreadest()");
         ask("The greatest p (1 .. 9) -- by three POINTS less", "10 abc d e f g h i", 1, "spreadest()");
+        ask("The greatest p (1 .. 9) -- by the last POINT less", "6 f ef", 1, "spreadest()");
         ask("The greatest p (1 .. 9) -- by all POINTS alone less", "3 abc a b c", 1, "spreadest()");
         ask("The greatest p (1 .. 9) -- by three POINTS less, just so", "10 abc d e f g h i j", 2, "spreadest()");
         ask("-2: by none, there are no SETS", "6", -2, "spreadest()");
@@ -1030,6 +1035,7 @@ public final class BoundaryTests {
         ask("-2: there are not so many", STAR, -2, "tight(6)", "tight(7)", "tight(1024)", "tight(MOST)");
         ask("TIGHT, if without any one of its POINTS it is none -- all POINTS", TEN, 1023, "tight(0)");
         ask("TIGHT, if without any one of its POINTS it is none -- all POINTS", TEN, -2, "tight(1)");
+        ask("TIGHT, if without any one of its POINTS it is none -- the last four of ten", "10 ghij", 4, "tight(NONE)");
         ask("TIGHT, if without any one of its POINTS it is none -- not LEAST", "6 ab ac", p("bc"), "tight(1)");
         ask("NONE: k below NONE", STAR, NONE, "tight(-2)", "tight(-3)", "tight(LEAST)");
         ask("NONE: k below NONE -- no SETS", "6", NONE, "tight(-2)");
@@ -1057,6 +1063,7 @@ public final class BoundaryTests {
         ask("SETS of which no two meet -- all", TEN, 10, "apart(0)");
         ask("SETS of which no two meet -- all", TEN, 1023, "apart(1)");
         ask("1 the first such (least bits)", "4 ab ac bd cd", s(1, 2), "apart(1)");
+        ask("The most SETS that are APART -- the last of more SETS than POINTS", "3 abc ab ac a b c", s(3, 4, 5), "apart(1)");
         ask("The most SETS that are APART -- not the first", "6 abc a b c", s(1, 2, 3), "apart(1)");
         whatOf("apart", 0, 1);
 
@@ -1064,6 +1071,8 @@ public final class BoundaryTests {
         ask("without SETS: 1", "6", 1, "exact(0)");
         ask("without SETS: 1 -- the empty row", "6", 0, "exact(1)");
         ask("all POINTS that are in some SET -- not all there are", "6 ab", 1, "exact(0)", "exact(1)");
+        ask("all POINTS that are in some SET -- in the last of more SETS than POINTS", "3 a b ab ac", s(1, 3), "exact(1)");
+        ask("all POINTS that are in some SET -- in the last of more SETS than POINTS", "3 a b ab ac", 1, "exact(0)");
         ask("all POINTS that are in some SET -- all of ten", TEN, 1023, "exact(1)");
         ask("1 the one with the least bits", "6 b ab a", s(1), "exact(1)");
         ask("1 the one with the least bits -- two lesser ones", "6 b a ab", s(0, 1), "exact(1)");
@@ -1152,6 +1161,7 @@ public final class BoundaryTests {
         ask("It ends where no step can be done -- one SET", "6 ab", 1, "kernel(1, 0)");
         ask("It ends where no step can be done -- no SETS", "6", 0, "kernel(1, 0)", "kernel(1, 1)", "kernel(1, 2)", "kernel(1, 3)", "kernel(1, 4)");
         ask("4 all its POINTS (bits)", FOUR, p("abc"), "kernel(2, 4)");
+        ask("4 all its POINTS (bits) -- of the 16th SET, too", PAIRS, 127, "kernel(5, 4)");
         ask("4 all its POINTS (bits) -- all of ten", "10 abcdefghij", 1023, "kernel(5, 4)");
         ask("-2: it is LOST -- at once", LOST_AT_ONCE, -2, "kernel(1, 0)", "kernel(5, 0)", "kernel(1, 4)", "kernel(5, 4)");
         ask("-2: it is LOST -- behind a step", LOST_LATE, -2, "kernel(1, 0)", "kernel(1, 4)");
@@ -1369,6 +1379,7 @@ public final class BoundaryTests {
         ask("1 SETS -- 16", SIXTEEN, 16, "count(1)");
         ask("2 POINTS that are in some SET (bits) -- none", "6", 0, "count(2)");
         ask("2 POINTS that are in some SET (bits) -- the first and the last", "10 j a", p("aj"), "count(2)");
+        ask("2 POINTS that are in some SET (bits) -- in the last of more SETS than POINTS", "3 a b ab ac", p("abc"), "count(2)");
         ask("2 POINTS that are in some SET (bits) -- all", TEN, 1023, "count(2)");
         ask("3 ACTS that can be undone", "6 a", 3, "count(3)");
         ask("3 ACTS that can be undone -- one", SIXTEEN, 1, "count(3)");
