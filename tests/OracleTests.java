@@ -855,7 +855,140 @@ public final class OracleTests {
         }
     }
 
+    // ---- every family of up to three points
+
+    private static final String[] BY_NOTHING = {"parts", "spreadest"};
+    private static final String[] BY_NUMBER = {"degree", "greatest", "flower", "flowers", "cores", "most", "surplus", "pairs", "ranked", "sized",
+        "hitter", "tight", "greedy", "apart", "exact", "halves", "can", "withoutSet", "freeNext", "spell", "count"};
+    private static final String[] BY_POINTS = {"having", "hits", "missed", "withSet"};
+    private static final String[] BY_SETS = {"isFlower", "core", "uneven"};
+    private static final String[] BY_POINTS_AND_WHAT = {"byCore", "link"};
+    private static final String[] BY_TWO_NUMBERS = {"set", "spread", "bound", "kernel", "kernelSet", "report"};
+    private static final int[] OUTER_NUMBERS = {Integer.MIN_VALUE, Integer.MAX_VALUE};
+
+    /** From -2 on to so many, and the outermost numbers. */
+    private static int[] numbersTo(int most) {
+        int[] all = new int[most + 5];
+        for (int i = 0; i < most + 3; i++) all[i] = i - 2;
+        System.arraycopy(OUTER_NUMBERS, 0, all, most + 3, 2);
+        return all;
+    }
+
+    private static Object invoke(Object on, String name, Object... arguments) {
+        Class<?>[] types = new Class<?>[arguments.length];
+        for (int i = 0; i < types.length; i++) types[i] = arguments[i] instanceof Boolean ? boolean.class : int.class;
+        try {
+            return on.getClass().getDeclaredMethod(name, types).invoke(on, arguments);
+        } catch (ReflectiveOperationException e) {
+            throw new IllegalStateException(name, e);
+        }
+    }
+
+    /** A family of which every call is tried; each object is used for as many calls as the document allows. */
+    static final class Small {
+        final int n;
+        final List<Integer> sets;
+        Pair pair;
+
+        Small(int n, List<Integer> sets) {
+            this.n = n;
+            this.sets = sets;
+            pair = fresh();
+        }
+
+        Pair fresh() {
+            Pair p = new Pair(new Random(1));
+            StringBuilder t = new StringBuilder("points " + n + ";");
+            for (int s : sets) t.append("set ").append(Model.letters(s)).append(";");
+            p.tell(t.toString());
+            return p;
+        }
+
+        boolean ask(String name, Object... arguments) {
+            if (pair.left < 1) pair = fresh();
+            Object got = invoke(pair.x, name, arguments);
+            int answer = got instanceof Boolean ? ((Boolean) got ? 1 : 0) : (Integer) got;
+            return pair.due(name + java.util.Arrays.toString(arguments), answer, (Integer) invoke(pair.m, name, arguments));
+        }
+
+        /** The act, what there is behind it, and what there is when it is taken back. */
+        void act(String name, Object... arguments) {
+            if (pair.left < 60) pair = fresh();
+            int acts = pair.m.acts.size();
+            if (!ask(name, arguments) || !pair.sameState()) return;
+            if (pair.m.acts.size() > acts) ask("undo");
+            pair.sameState();
+        }
+
+        void everyQuestion() {
+            int[] points = numbersTo((1 << n) + 1);
+            for (String name : BY_NOTHING) ask(name);
+            for (String name : BY_NUMBER) for (int i : numbersTo(18)) ask(name, i);
+            for (String name : BY_POINTS) for (int b : points) ask(name, b);
+            for (String name : BY_SETS) for (int m : numbersTo((1 << sets.size()) + 1)) ask(name, m);
+            for (String name : BY_POINTS_AND_WHAT) for (int b : points) for (int w : numbersTo(2)) ask(name, b, w);
+            for (String name : BY_TWO_NUMBERS) for (int i : numbersTo(11)) for (int j : numbersTo(17)) ask(name, i, j);
+            for (int b : numbersTo(6)) for (int k : numbersTo(7)) for (int w : numbersTo(4)) ask("step", b, k, w);
+        }
+
+        void everyAct() {
+            int[] points = numbersTo(n + 1);
+            int[] bits = numbersTo((1 << n) + 1);
+            int[] numbers = numbersTo(sets.size() + 1);
+            for (String name : new String[] {"turn", "flip", "undo"}) act(name);
+            for (int b : bits) act("add", b);
+            for (int i : numbers) act("drop", i);
+            for (int i : numbers) for (int b : bits) act("change", i, b);
+            for (int a : points) for (int b : points) act("swap", a, b);
+            for (int a : points) for (int b : points) act("join", a, b);
+            for (int a : points) act("without", a);
+            for (int a : points) act("only", a, true);
+            for (int a : points) act("only", a, false);
+            for (int b : numbersTo(6)) act("reduce", b);
+            for (int k : numbersTo(17)) act("thin", k);
+        }
+    }
+
+    private static void smallFamily(int n, List<Integer> sets) {
+        Small family = new Small(n, sets);
+        family.everyQuestion();
+        family.everyAct();
+    }
+
+    /** All orders of all that can come behind the sets chosen so far. */
+    private static void inEveryOrder(int n, List<Integer> chosen) {
+        smallFamily(n, new ArrayList<>(chosen));
+        for (int s = 1; s < 1 << n; s++) {
+            if (chosen.contains(s)) continue;
+            chosen.add(s);
+            inEveryOrder(n, chosen);
+            chosen.remove(chosen.size() - 1);
+        }
+    }
+
+    private static void risingAndFalling(int n) {
+        for (int m = 0; m < 1 << (1 << n) - 1; m++) {
+            List<Integer> sets = new ArrayList<>();
+            for (int s = 1; s < 1 << n; s++) if ((m >> s - 1 & 1) == 1) sets.add(s);
+            smallFamily(n, sets);
+            List<Integer> falling = new ArrayList<>(sets);
+            Collections.reverse(falling);
+            smallFamily(n, falling);
+        }
+    }
+
+    private static void smallFamilies(boolean everyOrder) {
+        inEveryOrder(1, new ArrayList<>());
+        inEveryOrder(2, new ArrayList<>());
+        if (everyOrder) inEveryOrder(3, new ArrayList<>());
+        else risingAndFalling(3);
+    }
+
     public static void main(String[] args) {
+        if (args.length == 1 && args[0].equals("small")) {
+            smallFamilies(true);
+            end();
+        }
         int runs = args.length > 0 ? Integer.parseInt(args[0]) : 150;
         long seed = args.length > 1 ? Long.parseLong(args[1]) : 1;
         for (int i = 0; i < runs; i++) {
@@ -865,7 +998,12 @@ public final class OracleTests {
             readRun(seed * 3000017 + i);
             wideRun(seed * 4000037 + i);
         }
+        smallFamilies(false);
+        end();
+    }
+
+    private static void end() {
         System.out.println(asked + " answers, " + wrong + " of them not as due");
-        if (wrong != 0) System.exit(1);
+        System.exit(wrong == 0 ? 0 : 1);
     }
 }
